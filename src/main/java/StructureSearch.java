@@ -248,7 +248,7 @@ public final class StructureSearch {
         }
 
         void copy(Big other) {
-            used = Math.min(other.used, words.length);
+            used = Math.min(other.used, Math.min(words.length, other.words.length));
             System.arraycopy(other.words, 0, words, 0, used);
         }
 
@@ -276,7 +276,7 @@ public final class StructureSearch {
 
         /** In place: from the highest word down, as what a word brings changes no word below it. */
         void times(Big other) {
-            int mine = used;
+            int mine = Math.min(used, words.length);
             widen(mine + other.used);
             for (int i = mine - 1; i >= 0; i--) {
                 long digit = words[i];
@@ -340,7 +340,8 @@ public final class StructureSearch {
         private void addDigit(long digit, int place) {
             widen(Math.max(used, place + 1) + 1);
             long carry = digit;
-            for (int i = place; i >= 0 && i < used && carry != 0; i++) {
+            int end = Math.min(used, words.length);
+            for (int i = place; i >= 0 && i < end && carry != 0; i++) {
                 long sum = words[i] + carry;
                 words[i] = sum & WORD_MASK;
                 carry = sum >>> 32;
@@ -351,10 +352,11 @@ public final class StructureSearch {
         /** The room for what comes must be there already. */
         private void addMultiple(long digit, Big other, int place) {
             long carry = 0;
-            int end = place + other.used;
-            for (int i = place; i >= 0 && i < used && (i < end || carry != 0); i++) {
+            int end = Math.min(used, words.length);
+            int theirs = place + Math.min(other.used, other.words.length);
+            for (int i = place; i >= 0 && i < end && (i < theirs || carry != 0); i++) {
                 long sum = words[i] + carry;
-                if (i < end) sum += digit * other.words[i - place];
+                if (i < theirs) sum += digit * other.words[i - place];
                 words[i] = sum & WORD_MASK;
                 carry = sum >>> 32;
             }
@@ -362,10 +364,11 @@ public final class StructureSearch {
 
         private void subtractMultiple(long digit, Big other, int place) {
             long carry = 0;
-            int end = place + other.used;
-            for (int i = place; i >= 0 && i < used && (i < end || carry != 0); i++) {
+            int end = Math.min(used, words.length);
+            int theirs = place + Math.min(other.used, other.words.length);
+            for (int i = place; i >= 0 && i < end && (i < theirs || carry != 0); i++) {
                 long product = carry;
-                if (i < end) product += digit * other.words[i - place];
+                if (i < theirs) product += digit * other.words[i - place];
                 long rest = words[i] - (product & WORD_MASK);
                 words[i] = rest & WORD_MASK;
                 carry = (product >>> 32) + (rest < 0 ? 1 : 0);

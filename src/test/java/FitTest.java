@@ -1,3 +1,5 @@
+import java.util.Random;
+
 /** Promises 11, 12 and 13: size, word, compare. */
 public final class FitTest {
     private static final int BAD = StructureSearch.BAD;
@@ -10,6 +12,7 @@ public final class FitTest {
         refusals(check);
         changes(check);
         longest(check);
+        for (int run = 0; run < 400; run++) manyFactors(check, new Random(run));
         check.end();
     }
 
@@ -141,6 +144,28 @@ public final class FitTest {
                 }
             }
         }
+    }
+
+    /** Rows that are mostly the same bring many factors, with primes of all sizes that may or may not go out. */
+    private static void manyFactors(Check check, Random random) {
+        StructureSearch x = new StructureSearch();
+        Oracle oracle = new Oracle();
+        int strength = 1 + random.nextInt(9);
+        x.set(0, strength);
+        oracle.set(0, strength);
+        for (int i = 0; i < 5; i++) {
+            int values = 2 + random.nextInt(2);
+            x.name(values);
+            oracle.name(values);
+        }
+        for (int i = 0; i < 16; i++) {
+            int[] v = new int[5];
+            for (int k = 0; k < 5; k++) v[k] = random.nextInt(4) == 0 ? 1 : 0;
+            x.row(v[0], v[1], v[2], v[3], v[4]);
+            oracle.row(v[0], v[1], v[2], v[3], v[4]);
+        }
+        int[] graphs = oracle.graphs();
+        for (int i = 0; i < 4; i++) same(check, x, oracle, graphs[random.nextInt(graphs.length)]);
     }
 
     private static void same(Check check, StructureSearch x, Oracle oracle, int graph) {

@@ -29,9 +29,11 @@ public final class ShareTest {
 
     /** All fits are 1 then: the share tells how many graphs have the arc. */
     private static void withoutRows(Check check) {
-        shareIs(check, withNames(2), 0, 1, 1, 3);
-        shareIs(check, withNames(3), 2, 0, 8, 25);
-        StructureSearch x = withNames(3);
+        StructureSearch x = withNames(2);
+        shareIs(check, x, 0, 1, 1, 3);
+        x.name(3);
+        shareIs(check, x, 0, 1, 8, 25);
+        shareIs(check, x, 2, 0, 8, 25);
         x.set(1, 1);
         shareIs(check, x, 1, 2, 1, 4);
         x.set(1, 0);
