@@ -156,13 +156,13 @@ public final class StructureSearch {
     public int shareSize(int from, int to, int part) {
         if (!isPair(from, to) || !isPart(part)) return BAD;
         if (sheet.names > SHARE_NAMES) return STATE;
-        return shareOf(from, to).side(part).length();
+        return readyShares().of(from, to).side(part).length();
     }
 
     public long shareWord(int from, int to, int part, int i) {
         if (!isPair(from, to) || !isPart(part)) return BAD;
         if (sheet.names > SHARE_NAMES) return STATE;
-        return wordOf(shareOf(from, to).side(part), i);
+        return wordOf(readyShares().of(from, to).side(part), i);
     }
 
     public long test(int a, int b, int c, int v, int part) {
@@ -204,9 +204,9 @@ public final class StructureSearch {
         return i >= 0 && i < number.length() ? number.at(i) : BAD;
     }
 
-    private Fraction shareOf(int from, int to) {
+    private Shares readyShares() {
         if (shares == null) shares = new Shares(sheet, powers);
-        return shares.of(from, to);
+        return shares;
     }
 
     private void forgetFits() {
@@ -227,7 +227,7 @@ public final class StructureSearch {
         private int used;
 
         Big(int room) {
-            words = new long[Math.max(room, 1)];
+            words = new long[room > 0 ? room : 1];
             used = 0;
         }
 
@@ -262,15 +262,14 @@ public final class StructureSearch {
 
         void timesSmall(long factor) {
             long carry = 0;
-            int end = Math.min(used, words.length);
-            for (int i = 0; i < end; i++) {
+            for (int i = 0; i < used && i < words.length; i++) {
                 long sum = words[i] * factor + carry;
                 words[i] = sum & WORD_MASK;
                 carry = sum >>> 32;
             }
-            if (carry != 0 && end < words.length) {
-                words[end] = carry;
-                used = end + 1;
+            if (carry != 0 && used >= 0 && used < words.length) {
+                words[used] = carry;
+                used++;
             }
         }
 
@@ -430,17 +429,17 @@ public final class StructureSearch {
             int rest = number;
             for (int i = 0; i < SMALL_PRIMES.length; i++) {
                 int prime = SMALL_PRIMES[i];
-                if (prime < 2 || prime * prime > rest) break;
+                if (prime < 2 || prime >= power.length || prime * prime > rest) break;
                 // A number up to TOP has far fewer prime factors than that.
                 for (int k = 0; k < 32 && rest % prime == 0; k++) {
                     rest /= prime;
                     power[prime] += often;
-                    largest = Math.max(largest, prime);
+                    if (prime > largest) largest = prime;
                 }
             }
             if (rest > 1 && rest < power.length) {
                 power[rest] += often;
-                largest = Math.max(largest, rest);
+                if (rest > largest) largest = rest;
             }
         }
 
@@ -1092,7 +1091,8 @@ public final class StructureSearch {
         /** In how many orders so many things of three sorts lie; none, if a number is below 0. */
         private static long deals(int a, int b, int c) {
             if (a < 0 || b < 0 || c < 0 || a + b + c >= FACTORIALS.length) return 0;
-            return factorial(a + b + c) / factorial(a) / factorial(b) / factorial(c);
+            long alike = factorial(a) * factorial(b) * factorial(c);
+            return alike > 0 ? factorial(a + b + c) / alike : 0;
         }
 
         private static long factorial(int n) {

@@ -36,19 +36,31 @@ public final class GraphTest {
                     check.same("9: arc " + p + " to " + c, x.isGraph(arc(p, c)) ? 1 : 0, there ? 1 : 0);
                 }
             }
-            int count = 0;
-            int graph = 0;
-            do {
-                if (x.isGraph(graph)) count++;
-                graph = graph - places & places;
-            } while (graph != 0);
-            check.same("9: graphs of " + names, count, due[names]);
+            check.same("9: graphs of " + names, countGraphs(names, places), due[names]);
         }
         StructureSearch x = withNames(5);
         for (int graph : NO_GRAPHS) check.holds("9: no graph " + graph, !x.isGraph(graph));
         int round = arc(0, 1) | arc(1, 2) | arc(2, 3) | arc(3, 4);
         check.holds("9: a way", x.isGraph(round));
         check.holds("9: a way that comes back", !x.isGraph(round | arc(4, 0)));
+    }
+
+    /** How many of the numbers with bits at these places alone are graphs, each object within its 512 calls. */
+    private static int countGraphs(int names, int places) {
+        StructureSearch x = withNames(names);
+        int calls = names;
+        int count = 0;
+        int graph = 0;
+        do {
+            if (calls == Made.MOST_CALLS) {
+                x = withNames(names);
+                calls = names;
+            }
+            if (x.isGraph(graph)) count++;
+            calls++;
+            graph = graph - places & places;
+        } while (graph != 0);
+        return count;
     }
 
     private static void order(Check check) {

@@ -3,7 +3,8 @@ import java.util.Random;
 /** Promises 1 to 21: runs of calls by chance (always the same ones), each answer against the oracle's. */
 public final class RandomRunsTest {
     private static final int RUNS = 260;
-    private static final int CALLS = 110;
+    // A turn takes some forty calls at most, and no object is asked more than 512 times.
+    private static final int TURN = 80;
 
     private final Check check;
     private final Random random;
@@ -11,6 +12,7 @@ public final class RandomRunsTest {
     private final Oracle oracle = new Oracle();
     private final int run;
     private final int kind;
+    private int calls = 0;
 
     private RandomRunsTest(Check check, int run) {
         this.check = check;
@@ -31,7 +33,8 @@ public final class RandomRunsTest {
         int rows = random.nextInt(18);
         for (int i = 0; i < rows; i++) row();
         if (random.nextInt(2) == 0) set();
-        for (int i = 0; i < CALLS; i++) call(random.nextInt(100));
+        while (calls < Made.MOST_CALLS - TURN) call(random.nextInt(100));
+        check.holds("no more than 512 calls", calls <= Made.MOST_CALLS);
     }
 
     private void call(int dice) {
@@ -52,6 +55,7 @@ public final class RandomRunsTest {
     }
 
     private void same(String call, long got, long want) {
+        calls++;
         check.same("run " + run + ": " + call, got, want);
     }
 

@@ -32,15 +32,16 @@ public final class RoomTest {
         Random random = new Random(seed);
         StructureSearch x = new StructureSearch();
         for (int i = 0; i < names; i++) x.name(3);
-        for (int i = names; i < 512; i++) {
-            if (i % 2 == 0) x.drop(random.nextInt(16));
-            else x.row(random.nextInt(3), random.nextInt(3), random.nextInt(3), random.nextInt(3), random.nextInt(3));
-            if (i % 4 == 1) x.shareSize(0, 1, 0);
-            if (i % 8 == 3) x.best();
-            if (i % 8 == 7) x.climb(0, 30);
-            x.size(2, 0);
-            x.kin(6, 0);
-            x.test(0, 1, -1, 0, 0);
+        for (int calls = names; calls < Made.MOST_CALLS; calls++) {
+            switch (calls % 8) {
+                case 0 -> x.drop(random.nextInt(16));
+                case 1, 2 -> x.row(random.nextInt(3), random.nextInt(3), random.nextInt(3), random.nextInt(3), random.nextInt(3));
+                case 3 -> x.shareSize(0, 1, 0);
+                case 4 -> x.best();
+                case 5 -> x.climb(0, 30);
+                case 6 -> x.kin(6, 0);
+                default -> x.test(0, 1, -1, 0, 0);
+            }
         }
     }
 }

@@ -104,23 +104,27 @@ public final class SearchTest {
 
     private static void againstOracle(Check check, int names) {
         for (int run = 0; run < 12; run++) {
-            Random random = new Random(100 * names + run);
-            StructureSearch x = new StructureSearch();
-            Oracle oracle = new Oracle();
-            fill(random, x, oracle, names);
-            for (int most = 0; most <= 4; most++) {
-                x.set(1, most);
-                oracle.set(1, most);
-                for (int name = 0; name < names; name++) {
-                    for (int of = 0; of < 1 << names; of++) {
-                        check.same("14: parents", x.parents(name, of), oracle.parents(name, of));
-                    }
-                }
-                check.same("15: best", x.best(), oracle.best());
-                check.same("16: climb", x.climb(0, 30), oracle.climb(0, 30));
-                int graph = oracle.graphs()[random.nextInt(oracle.graphs().length)];
-                check.same("16: climb", x.climb(graph, 4), oracle.climb(graph, 4));
+            for (int most = 0; most <= 4; most++) againstOracle(check, names, run, most);
+        }
+    }
+
+    private static void againstOracle(Check check, int names, int run, int most) {
+        Random random = new Random(100 * names + run);
+        StructureSearch x = new StructureSearch();
+        Oracle oracle = new Oracle();
+        fill(random, x, oracle, names);
+        x.set(1, most);
+        oracle.set(1, most);
+        for (int name = 0; name < names; name++) {
+            for (int of = 0; of < 1 << names; of++) {
+                check.same("14: parents", x.parents(name, of), oracle.parents(name, of));
             }
+        }
+        check.same("15: best", x.best(), oracle.best());
+        check.same("16: climb", x.climb(0, 30), oracle.climb(0, 30));
+        for (int i = 0; i <= most; i++) {
+            int graph = oracle.graphs()[random.nextInt(oracle.graphs().length)];
+            check.same("16: climb", x.climb(graph, 4), oracle.climb(graph, 4));
         }
     }
 

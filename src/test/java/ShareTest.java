@@ -98,38 +98,38 @@ public final class ShareTest {
 
     private static void againstOracle(Check check, int names) {
         for (int run = 0; run < 12; run++) {
-            Random random = new Random(10 * names + run);
-            StructureSearch x = new StructureSearch();
-            Oracle oracle = new Oracle();
-            int strength = 1 + random.nextInt(9);
-            x.set(0, strength);
-            oracle.set(0, strength);
-            for (int i = 0; i < names; i++) {
-                int values = 2 + random.nextInt(2);
-                x.name(values);
-                oracle.name(values);
-            }
-            int rows = random.nextInt(17);
-            for (int i = 0; i < rows; i++) {
-                int v = random.nextInt(2);
-                int w = random.nextInt(oracle.about(5));
-                x.row(v, random.nextInt(2) == 0 ? v : w, w % 2, v, 0);
-                oracle.row(x.value(i, 0), x.value(i, 1), w % 2, v, 0);
-            }
-            for (int most = 0; most <= 4; most++) {
-                x.set(1, most);
-                oracle.set(1, most);
-                sameShares(check, x, oracle);
+            for (int from = 0; from < names; from++) {
+                for (int to = 0; to < names; to++) {
+                    if (from != to) sameShares(check, new Random(10 * names + run), names, from, to);
+                }
             }
         }
     }
 
-    private static void sameShares(Check check, StructureSearch x, Oracle oracle) {
-        int names = oracle.about(0);
-        for (int from = 0; from < names; from++) {
-            for (int to = 0; to < names; to++) {
-                if (from != to) sameShare(check, x, oracle, from, to);
-            }
+    /** An object for each arc: so it stays within its 512 calls. */
+    private static void sameShares(Check check, Random random, int names, int from, int to) {
+        StructureSearch x = new StructureSearch();
+        Oracle oracle = new Oracle();
+        int strength = 1 + random.nextInt(9);
+        x.set(0, strength);
+        oracle.set(0, strength);
+        for (int i = 0; i < names; i++) {
+            int values = 2 + random.nextInt(2);
+            x.name(values);
+            oracle.name(values);
+        }
+        int rows = random.nextInt(17);
+        for (int i = 0; i < rows; i++) {
+            int v = random.nextInt(2);
+            int w = random.nextInt(oracle.about(5));
+            int b = random.nextInt(2) == 0 ? v : w;
+            x.row(v, b, w % 2, v, 0);
+            oracle.row(v, b, w % 2, v, 0);
+        }
+        for (int most = 0; most <= 4; most++) {
+            x.set(1, most);
+            oracle.set(1, most);
+            sameShare(check, x, oracle, from, to);
         }
     }
 
