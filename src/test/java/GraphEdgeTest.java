@@ -19,6 +19,7 @@ public final class GraphEdgeTest {
         alikePairs(check);
         alikeMeetings(check);
         alikeWithoutMeetings(check);
+        alikeNoGraph(check);
         kinOfNone(check);
         kinOfOne(check);
         kinOfMany(check);
@@ -196,6 +197,19 @@ public final class GraphEdgeTest {
         check.same("17: five names, all tied", x.alike(Made.upward(5), Made.arcs(4, 3, 4, 2, 4, 1, 4, 0, 3, 2, 3, 1, 3, 0,
             2, 1, 2, 0, 1, 0)), 1);
         check.same("17: tied either way", x.alike(Made.arcs(0, 2, 1, 2, 0, 1), Made.arcs(0, 2, 1, 2, 1, 0)), 1);
+    }
+
+    /** 17: "BAD": the one or the other is no GRAPH. */
+    private static void alikeNoGraph(Check check) {
+        StructureSearch x = Made.twos(3);
+        int[] none = {-1, 1, Made.arc(0, 3), Made.arc(3, 0), Made.arcs(0, 1, 1, 0), Made.arcs(0, 1, 1, 2, 2, 0), 1 << 25,
+            Integer.MIN_VALUE, Integer.MAX_VALUE};
+        for (int graph : none) {
+            check.same("17: the first " + graph, x.alike(graph, 0), BAD);
+            check.same("17: the second " + graph, x.alike(0, graph), BAD);
+            check.same("17: both " + graph, x.alike(graph, graph), BAD);
+        }
+        check.same("17: no names", new StructureSearch().alike(0, Made.arc(0, 1)), BAD);
     }
 
     private static void kinIs(Check check, StructureSearch x, int graph, int... due) {

@@ -16,6 +16,7 @@ public final class ShareEdgeTest {
         stateBeforeNoSuchWord(check);
         badBeforeState(check);
         changesAreSeen(check);
+        eachArc(check);
         longShares(check);
         check.end();
     }
@@ -178,6 +179,14 @@ public final class ShareEdgeTest {
 
     /** A share is told of what is there now: after name, row, drop, set and clear. */
     private static void changesAreSeen(Check check) {
+        StructureSearch y = Made.twos(2);
+        shareIs(check, "two names", y, 0, 1, 1, 3);
+        y.name(3);
+        shareIs(check, "three names", y, 0, 1, 8, 25);
+        y.name(2);
+        shareIs(check, "four names", y, 0, 1, 56, 181);
+        y.clear();
+        check.same("19: cleared", y.shareSize(0, 1, 0), BAD);
         StructureSearch x = Made.twos(2);
         shareIs(check, "no rows", x, 0, 1, 1, 3);
         Made.rows(x, 2);
@@ -201,6 +210,28 @@ public final class ShareEdgeTest {
         shareIs(check, "a third name", x, 0, 1, 1, 4);
         x.set(1, 2);
         shareIs(check, "most 2", x, 0, 1, 8, 25);
+    }
+
+    /** Each ARC has a share of its own, in whatever order they are asked for. */
+    private static void eachArc(Check check) {
+        StructureSearch x = new StructureSearch();
+        Oracle oracle = new Oracle();
+        for (int i = 0; i < 3; i++) {
+            x.name(2 + i % 2);
+            oracle.name(2 + i % 2);
+        }
+        for (int i = 0; i < 7; i++) {
+            x.row(i % 2, i % 4 / 2, i % 2, 0, 0);
+            oracle.row(i % 2, i % 4 / 2, i % 2, 0, 0);
+        }
+        int[][] arcs = {{0, 1}, {0, 2}, {1, 2}, {0, 2}, {2, 0}, {2, 1}, {0, 1}, {1, 0}, {1, 2}, {2, 0}, {1, 0}};
+        for (int[] arc : arcs) {
+            for (int part = 0; part < 2; part++) {
+                check.same("20: each arc", x.shareWord(arc[0], arc[1], part, 0), oracle.shareWord(arc[0], arc[1], part, 0));
+            }
+        }
+        check.holds("20: they differ", x.shareWord(0, 1, 0, 0) != x.shareWord(0, 2, 0, 0));
+        check.holds("20: they differ too", x.shareWord(0, 2, 0, 0) != x.shareWord(1, 2, 0, 0));
     }
 
     /** Shares of many WORDS, each WORD 0 .. 2^32 - 1, the lowest first, against the oracle. */

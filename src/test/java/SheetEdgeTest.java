@@ -99,9 +99,10 @@ public final class SheetEdgeTest {
         x.best();
         x.size(Made.arc(0, 1), 0);
         x.shareSize(0, 1, 0);
+        check.holds("2: a fit before", x.word(0, 1, 0) > 1);
         check.same("2: three", x.clear(), 3);
-        asAtFirst(check, "2: all", x);
         check.same("2: the fit of nothing", x.word(0, 1, 0), 1);
+        asAtFirst(check, "2: all", x);
         check.same("2: the best of nothing", x.best(), 0);
         check.holds("2: no arcs", !x.isGraph(Made.arc(0, 1)));
         check.same("2: the first name again", x.name(2), 0);
