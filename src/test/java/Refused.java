@@ -1,7 +1,7 @@
 import java.util.ArrayList;
 import java.util.List;
 
-/** "What is refused changes nothing": a call that is refused, and all that can be seen before and after it. */
+/** "What is refused changes nothing": a call that is refused, and what some 130 other calls answer before and after it. */
 final class Refused {
     interface Start {
         StructureSearch make();
