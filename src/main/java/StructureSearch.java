@@ -325,7 +325,10 @@ public final class StructureSearch {
         }
 
         private int bits() {
-            return used == 0 ? 0 : 32 * used - Long.numberOfLeadingZeros(at(used - 1)) + 32;
+            long filled = at(used - 1);
+            // With all bits below the highest one set, their count tells where that one is.
+            for (int shift = 1; shift < 32; shift *= 2) filled |= filled >>> shift;
+            return used == 0 ? 0 : 32 * (used - 1) + Long.bitCount(filled);
         }
 
         /** The number without its lowest bits, where that has 63 bits at most. */
@@ -392,9 +395,9 @@ public final class StructureSearch {
         final Big below;
         boolean ready;
 
-        Fraction(int room) {
-            above = new Big(room);
-            below = new Big(room);
+        Fraction(Big above, Big below) {
+            this.above = above;
+            this.below = below;
             ready = false;
         }
 
@@ -649,8 +652,8 @@ public final class StructureSearch {
             this.sheet = sheet;
             this.powers = powers;
             ofNames = new Fraction[MAX_NAMES * ALL_SETS];
-            ofNothing = new Fraction(1);
-            whole = new Fraction(GRAPH_ROOM);
+            ofNothing = new Fraction(new Big(1), new Big(1));
+            whole = new Fraction(new Big(GRAPH_ROOM), new Big(GRAPH_ROOM));
             wholeGraph = 0;
             left = new Big(2 * GRAPH_ROOM);
             right = new Big(2 * GRAPH_ROOM);
@@ -695,7 +698,7 @@ public final class StructureSearch {
         private Fraction ofName(int name, int set) {
             int i = name * ALL_SETS + set;
             if (i < 0 || i >= ofNames.length) return ofNothing;
-            if (ofNames[i] == null) ofNames[i] = new Fraction(NAME_ROOM);
+            if (ofNames[i] == null) ofNames[i] = new Fraction(new Big(NAME_ROOM), new Big(NAME_ROOM));
             Fraction fit = ofNames[i];
             if (!fit.ready) {
                 powers.forget();
@@ -900,7 +903,7 @@ public final class StructureSearch {
             term = new Big(SUM_ROOM);
             rest = new Big(SUM_ROOM);
             divisor = new Big(SUM_ROOM);
-            share = new Fraction(SUM_ROOM);
+            share = new Fraction(new Big(SUM_ROOM), new Big(SUM_ROOM));
             shareFrom = 0;
             shareTo = 0;
         }
@@ -1051,7 +1054,7 @@ public final class StructureSearch {
                 int i = KINDS * sheet.valueIn(row, a) + sheet.valueIn(row, b);
                 if (i >= 0 && i < cells.length) cells[i]++;
             }
-            for (int k = 0; k < KINDS; k++) {
+            for (int k = 0; k < KINDS && k < ofFirst.length && k < ofSecond.length; k++) {
                 ofFirst[k] = cell(k, 0) + cell(k, 1) + cell(k, 2);
                 ofSecond[k] = cell(0, k) + cell(1, k) + cell(2, k);
             }
