@@ -41,7 +41,7 @@ public final class CallsTest {
                 check.holds("4: " + method + " calls " + called, known);
             }
             List<String> chain = test.longestChain(method, new ArrayList<>());
-            check.holds("8: no recursion: " + chain, !chain.isEmpty());
+            check.holds("8: no call comes back from " + method, !chain.isEmpty());
             check.holds("11: eight deep at most: " + chain, chain.size() <= DEEPEST);
         }
         check.end();
